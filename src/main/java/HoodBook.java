@@ -590,6 +590,7 @@ public final class HoodBook {
         final Tape tape;
         int kind;
         int word;
+        int value;
         int place;
         int next;
         int fault;
@@ -615,34 +616,23 @@ public final class HoodBook {
             while (place < tape.size && isBlank(tape.at(place))) {
                 place++;
             }
-            int c = tape.at(place);
-            kind = c == NONE ? TEXT_END : isLetter(c) ? WORD : isDigit(c) ? NUMBER : SIGN;
-            next = c == NONE ? place : endOf(place + 1);
+            kind = kindOf(tape.at(place));
+            boolean isLong = kind == WORD || kind == NUMBER;
+            next = place;
+            word = 0;
+            value = 0;
+            while (next < tape.size && (next == place || isLong && kindOf(tape.at(next)) == kind)) {
+                word = word * 32 + tape.at(next);
+                value = value * 10 + (tape.at(next) - '0');
+                next++;
+            }
             // A word and a number without a blank between: nothing may go on with the second.
-            if (place == end && (before == WORD && kind == NUMBER || before == NUMBER && kind == WORD)) {
+            if (place == end && isLong && before != kind && (before == WORD || before == NUMBER)) {
                 kind = GLUED;
             }
-            word = kind == WORD ? wordHere() : NO_WORD;
-        }
-
-        private int endOf(int from) {
-            int to = from;
-            while (to < tape.size && (kind == WORD && isLetter(tape.at(to))
-                    || kind == NUMBER && isDigit(tape.at(to)))) {
-                to++;
+            if (kind != WORD || next - place > LONGEST_WORD) {
+                word = NO_WORD;
             }
-            return to;
-        }
-
-        private int wordHere() {
-            if (next - place > LONGEST_WORD) {
-                return NO_WORD;
-            }
-            int number = 0;
-            for (int k = place; k < next; k++) {
-                number = number * 32 + tape.at(k);
-            }
-            return number;
         }
 
         boolean isSign(char sign) {
@@ -675,16 +665,13 @@ public final class HoodBook {
                 stop(NOT_GOING_ON, place + DIGITS);
                 return NONE;
             }
-            int value = 0;
-            for (int k = place; k < next; k++) {
-                value = value * 10 + (tape.at(k) - '0');
-            }
-            if (value < from || value > to) {
+            int taken = value;
+            if (taken < from || taken > to) {
                 stop(NO_SUCH_NUMBER, place);
                 return NONE;
             }
             step();
-            return value;
+            return taken;
         }
 
         boolean stop(int which, int where) {
@@ -699,12 +686,14 @@ public final class HoodBook {
             return c == 10 || c == 32;
         }
 
-        private static boolean isLetter(int c) {
-            return c >= 'a' && c <= 'z';
-        }
-
-        private static boolean isDigit(int c) {
-            return c >= '0' && c <= '9';
+        private static int kindOf(int c) {
+            if (c == NONE) {
+                return TEXT_END;
+            }
+            if (c >= 'a' && c <= 'z') {
+                return WORD;
+            }
+            return c >= '0' && c <= '9' ? NUMBER : SIGN;
         }
     }
 
@@ -1027,7 +1016,13 @@ public final class HoodBook {
             if (wording == QUESTION && reader.word == W_AT) {
                 return readLookup(open, AT_GATE);
             }
-            return readName();
+            int name = nameHere();
+            if (name == 0) {
+                return reader.stop(NOT_GOING_ON, reader.place);
+            }
+            code.put(name);
+            reader.step();
+            return true;
         }
 
         private boolean readPair(int open, int how) {
@@ -1045,16 +1040,6 @@ public final class HoodBook {
             boolean good = goIn(open) && readPart(open + 1);
             code.put(how);
             return good;
-        }
-
-        private boolean readName() {
-            int name = nameHere();
-            if (name == 0) {
-                return reader.stop(NOT_GOING_ON, reader.place);
-            }
-            code.put(name);
-            reader.step();
-            return true;
         }
 
         /** The cell of the name that stands here, 0 where this wording has none such. */
@@ -1178,7 +1163,8 @@ public final class HoodBook {
         }
 
         int of(int hood, int line) {
-            return isHood(hood) && isLine(line) ? table[hood * LINES + line] : 0;
+            boolean there = hood >= 0 && hood < HOODS && line >= 0 && line < LINES;
+            return there ? table[hood * LINES + line] : 0;
         }
 
         void fillLine(Night night, Scene scene, int coin, int line) {
@@ -1796,23 +1782,21 @@ public final class HoodBook {
             trial.marks = trialMarks;
             found = NONE;
             for (int coin = 0; coin < COINS; coin++) {
-                int out = outWithCoin(night, kind, coin);
+                markTrial(night, kind, coin);
+                int out = trial.outBy(kind);
                 if (found == NONE || out < foundOut) {
                     found = coin;
                     foundOut = out;
                 }
-                // Nothing is less out than that.
-                if (out == 0) {
+                // Nothing is less out than that, and no coin touches OFTEN.
+                if (out == 0 || kind == BY_OFTEN) {
                     return;
                 }
             }
         }
 
-        /** Only the lines that the kind looks at are marked anew; no coin touches OFTEN. */
-        private int outWithCoin(Night night, int kind, int coin) {
-            if (kind == BY_OFTEN) {
-                return all.outBy(kind);
-            }
+        /** Only what the kind looks at is made anew, by the lines that it looks at. */
+        private void markTrial(Night night, int kind, int coin) {
             int last = lastLineOf(kind, all.rows);
             for (int line = firstLineOf(kind); line <= last; line++) {
                 trialMarks.fillLine(night, scene, coin, line);
@@ -1823,7 +1807,6 @@ public final class HoodBook {
                     trial.addMarks(hood, trial.hoodTimes[hood], kind);
                 }
             }
-            return trial.outBy(kind);
         }
 
         private static int firstLineOf(int kind) {

@@ -115,6 +115,13 @@ public final class ImageTest {
         more = closed(more);
         Check.write(y, more);
         c.due("401 passes", y.on(), false);
+        int[] told = Arrays.copyOf(bytes, bytes.length - 1);
+        told[2] = 145;
+        Check.write(y, closed(told));
+        c.due("401 told, 400 there", y.on(), false);
+        told[1] = 255;
+        Check.write(y, closed(told));
+        c.due("many told, 400 there", y.on(), false);
     }
 
     private static void notThatNight(Check c) {

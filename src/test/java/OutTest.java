@@ -33,6 +33,11 @@ public final class OutTest {
         c.due("by runs, too few", with("book lines 1 rows 1;mix hood;", 1, 3, 5).out(2, 1), 2);
         c.due("by told", with("book lines 1 rows 3;", 1, 1, 2).out(2, 2), 3);
         c.due("by told", with("book lines 9 rows 1;mix hood/8;", 1, 1, 2, 9).out(2, 2), 3);
+        // Hoods 0 and 63 have the same marks, no others share both rows.
+        String ends = "book lines 9 rows 2;mix (hood-hood/63*63)/(line*8-15);";
+        c.due("by told of hood 0", with(ends, 63).out(2, 2), 1);
+        c.due("by told of hood 63", with(ends, 0, 0).out(2, 2), 2);
+        c.due("by told of none", with(ends, 7, 7).out(2, 2), 0);
         c.due("by was", with("book lines 1 rows 1;mix 1;", 3, 4, 4).out(2, 3), 62);
         c.due("by was", with("book lines 9 rows 1;mix hood;", 3, 4).out(2, 3), 0);
         HoodBook m = Check.opened("book lines 1 rows 1;");
@@ -102,6 +107,9 @@ public final class OutTest {
         HoodBook last = with("book lines 9 rows 1;mix hood*(coin/99);", 1);
         c.due("the last coin", last.best(3, 0), 99);
         c.due("the last coin", last.best(3, 1), 0);
+        HoodBook beyond = with("book lines 9 rows 1;mix hood*(coin/100);", 1);
+        c.due("no coin 100", beyond.best(3, 0), 0);
+        c.due("no coin 100", beyond.best(3, 1), 63);
         HoodBook o = with("book lines 1 rows 1;coin 5;", 2, 1);
         c.due("best(5, 0)", o.best(5, 0), 0);
         c.due("best(5, 1)", o.best(5, 1), 1);
@@ -141,6 +149,9 @@ public final class OutTest {
         c.due("same(-2)", all.same(-2), -1);
         c.due("same(max)", all.same(Integer.MAX_VALUE), -1);
         c.due("same(min)", all.same(Integer.MIN_VALUE), -1);
+        HoodBook noughts = with("book lines 1 rows 1;mix 0;", 9);
+        c.due("same(-1)", noughts.same(-1), 64);
+        c.due("same(64)", noughts.same(64), -1);
         HoodBook x = with("book lines 2 rows 1;mix hood;", 4, 8);
         c.due("same(-1)", x.same(-1), 8);
         c.dueRow("same", x::same, 4, 8, 20, 24, 36, 40, 52, 56, -1);
