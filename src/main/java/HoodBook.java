@@ -140,9 +140,10 @@ public final class HoodBook {
         tape = new Tape();
         question = new Code();
         grammar = new Grammar(new Reader(tape), question);
-        scene = new Scene();
+        Marks marks = new Marks();
+        scene = new Scene(marks);
         roll = new Roll();
-        ledger = new Ledger(scene);
+        ledger = new Ledger(scene, marks);
         picture = new Image();
         refused = new int[REFUSALS];
         tonight = new Night();
@@ -1076,12 +1077,12 @@ public final class HoodBook {
         int gave;
         int atFirstGate;
         int atSecondGate;
-        Marks marks;
+        private final Marks marks;
         // Six left operands may wait at each of seven levels.
-        final int[] stack;
+        private final int[] stack;
 
-        Scene() {
-            marks = null;
+        Scene(Marks marks) {
+            this.marks = marks;
             stack = new int[64];
         }
 
@@ -1125,7 +1126,7 @@ public final class HoodBook {
                 return value == 0 ? 1 : 0;
             }
             if (cell == MARK_IN) {
-                return marks == null ? 0 : marks.of(hood, value);
+                return marks.of(hood, value);
             }
             return value == 0 ? atFirstGate : value == 1 ? atSecondGate : 0;
         }
@@ -1685,15 +1686,14 @@ public final class HoodBook {
         private int marksCoin;
         private int entered;
 
-        Ledger(Scene scene) {
+        Ledger(Scene scene, Marks marks) {
             this.scene = scene;
-            marks = new Marks();
+            this.marks = marks;
             trialMarks = new Marks();
             first = new Book(marks);
             second = new Book(marks);
             all = new Book(marks);
             trial = new Book(marks);
-            scene.marks = marks;
             marksCoin = NONE;
             entered = NONE;
         }
