@@ -1,7 +1,7 @@
 import java.nio.charset.StandardCharsets;
 
 /** Counts the answers that are not as due, and writes texts on a book's tape. */
-final class Check {
+class Check {
     private final String name;
     private int calls;
     private int wrong;
@@ -32,6 +32,23 @@ final class Check {
     void dueFault(String text, HoodBook x, int fault, int place) {
         due("fault(0) of '" + text + "'", x.fault(0), fault);
         due("fault(1) of '" + text + "'", x.fault(1), place);
+    }
+
+    /** A new object takes the text as its night. */
+    void opens(String text, int statements) {
+        HoodBook x = new HoodBook();
+        due("open '" + text + "'", open(x, text), statements);
+        dueFault(text, x, 0, -1);
+        due("status(1)", x.status(1), 0);
+    }
+
+    /** A new object refuses the text, and the tape goes. */
+    void refuses(String text, int fault, int place) {
+        HoodBook x = new HoodBook();
+        due("open '" + text + "'", open(x, text), -1);
+        dueFault(text, x, fault, place);
+        due("status(1)", x.status(1), 1);
+        due("feed behind it", x.feed(0, 0, 0, 0, 0), 20);
     }
 
     void finish() {

@@ -1,0 +1,14 @@
+import java.io.IOException;
+
+/** Each sentence of the terms and of promises 1 to 37 with its edges: every one is quoted and has answers of its own. */
+public final class EdgesTest {
+    public static void main(String[] args) throws IOException {
+        Sentences s = new Sentences("EdgesTest");
+        EdgesOfNights.all(s);
+        EdgesOfBooks.all(s);
+        EdgesOfSaying.all(s);
+        EdgesOfActs.all(s);
+        EdgesOfQuestions.all(s);
+        s.finish();
+    }
+}
