@@ -385,12 +385,21 @@ final class EdgesOfActs {
         HoodBook x = two();
         s.due("without passes", puts(x, closed(0, 0, 0, 255, 255)), true);
         s.due("the tape is gone", x.end(1), false);
-        HoodBook full = Check.opened("book lines 9 rows 3;" + "hoods 80 from 3 step 5 gives turn gate 1;".repeat(5));
-        full.night();
-        int[] bytes = Check.octets(full);
+        int[] bytes = new int[3 + 1200 + 9];
+        bytes[1] = 1;
+        bytes[2] = 144;
+        for (int k = 0; k < 400; k++) {
+            bytes[3 + 3 * k] = k * 5 % 64;
+            bytes[4 + 3 * k] = k % 100;
+            bytes[5 + 3 * k] = k % 2;
+        }
+        for (int line = 0; line < 9; line++) {
+            bytes[1203 + line] = 63 - line;
+        }
+        bytes = closed(bytes);
         HoodBook y = Check.opened("book lines 9 rows 3;");
         s.due("400 passes", puts(y, bytes), true);
-        s.due("its image", Arrays.equals(Check.octets(y).clone(), bytes), true);
+        sameImage(s, y, bytes);
         s.due("a tape of noughts alone", puts(x, 0, 0, 0, 0, 0, 0), false);
         s.due("the tape is gone", x.end(1), false);
         s.due("lines of another night", puts(x, closed(0, 0, 0, 255)), false);
@@ -407,6 +416,9 @@ final class EdgesOfActs {
         s.dueRow("least", k -> x.least(2, k), 47, 105, -1);
         s.due("times", x.times(2, 50), 0);
         s.due("mark", x.mark(0, 0), 42);
+        s.due("the coin that lies", puts(x, closed(42, 0, 2, 1, 9, 1, 2, 8, 0, 1, 2)), true);
+        s.dueRow("least", k -> x.least(2, k), 43, 44, -1);
+        s.due("times", x.times(2, 63), 0);
         s.due("on", puts(x, closed(7, 0, 0, 255, 255)), true);
         s.due("nobody", x.truth(2, 0), 0);
         s.due("no lot", x.lot(0), -1);
@@ -432,7 +444,16 @@ final class EdgesOfActs {
         HoodBook x = two();
         s.due("on, " + why, puts(x, bytes), true);
         s.due("status(5)", x.status(5), 0);
-        s.due("its image, " + why, Arrays.equals(Check.octets(x), bytes), true);
+        sameImage(s, x, bytes);
+    }
+
+    /** Of a long image only some bytes, as an object is made for 512 calls. */
+    private static void sameImage(Sentences s, HoodBook x, int[] bytes) {
+        s.due("its image", x.image(), bytes.length);
+        int step = 1 + bytes.length / 200;
+        for (int k = bytes.length - 1; k >= 0; k -= step) {
+            s.due("octet(" + k + ")", x.octet(k), bytes[k]);
+        }
     }
 
     private static void onRefused(Sentences s) {
@@ -473,6 +494,12 @@ final class EdgesOfActs {
         most[1] = 1;
         most[2] = 144;
         takes(s, "400 passes", closed(most));
+        for (int count : new int[] {255, 256, 257, 399}) {
+            int[] some = new int[3 + 3 * count + 2];
+            some[1] = count / 256;
+            some[2] = count % 256;
+            takes(s, count + " passes", closed(some));
+        }
         int[] more = new int[3 + 1203 + 2];
         more[1] = 1;
         more[2] = 145;
@@ -492,6 +519,7 @@ final class EdgesOfActs {
         refuses(s, "the first did not pass", closed(0, 0, 2, 5, 0, 0, 6, 0, 1, 7, 6));
         refuses(s, "the last did not pass", closed(0, 0, 2, 5, 0, 0, 6, 0, 1, 5, 7));
         refuses(s, "a gift is no hood", closed(0, 0, 1, 5, 8, 1, 5, 8));
+        refuses(s, "the coin is no hood", closed(7, 0, 1, 5, 8, 1, 5, 7));
         refuses(s, "none with passes", closed(0, 0, 2, 5, 0, 0, 6, 0, 1, 5, 255));
         refuses(s, "none with passes", closed(0, 0, 2, 5, 0, 0, 6, 0, 1, 255, 255));
         refuses(s, "one without passes", closed(0, 0, 0, 255, 0));

@@ -145,6 +145,8 @@ final class EdgesOfBooks {
         s.dueRow("one line", k -> one.least(2, k), 0, -1);
         HoodBook nine = book(9, 1, "63-hood", 1, 2, 3, 4, 5, 6, 7, 8, 9, 10);
         s.dueRow("nine lines", k -> nine.least(2, k), 53, 54, 55, 56, 57, 58, 59, 60, 61, -1);
+        nine.pass(0, 0, 0);
+        s.dueRow("one above nine", k -> nine.least(2, k), 53, 54, 55, 56, 57, 58, 59, 60, 61, -1);
         s.of("II", "RUN: the most noughts at the end of a MARK in LINE 1, in twos (0 has 10; -1 without PASSES).");
         HoodBook r = book(1, 1, "(1-" + inLine(1, "1") + ")*512+" + inLine(1, "hood*8"));
         s.due("without passes", r.run(2), -1);
@@ -178,6 +180,8 @@ final class EdgesOfBooks {
         s.dueRow("numbers", k -> y.often(2, k, 1), 1, 1, -1, -1);
         y.pass(8, 0, 0);
         s.dueRow("hoods", k -> y.often(2, k, 0), 5, 9, 8, -1);
+        HoodBook again = book(3, 1, "0", 8, 9, 9, 7, 6, 7);
+        s.dueRow("not that which it had", k -> again.often(2, k, 0), 7, 9, -1, -1);
         s.of("II", "else each number is 1 less, and those that are 0 then are empty.");
         HoodBook z = book(2, 1, "0", 1, 1, 2, 3);
         s.dueRow("hoods", k -> z.often(2, k, 0), 1, -1, -1);
@@ -420,6 +424,7 @@ final class EdgesOfBooks {
             s.due("book " + bad, x.least(bad, 0), -1);
         }
         s.due("a book without passes", x.least(1, 0), -1);
+        s.due("a tenth of nine", book(9, 1, "hood", 1, 2, 3, 4, 5, 6, 7, 8, 9, 10).least(2, 9), -1);
         s.due("without a night", new HoodBook().least(2, 0), -1);
     }
 
@@ -459,6 +464,7 @@ final class EdgesOfBooks {
         for (int bad : new int[] {-1, 2, MIN, MAX}) {
             s.due("what " + bad, x.often(2, 1, bad), -1);
         }
+        s.due("a tenth place of nine", book(9, 1, "0", 1, 2, 3, 4, 5, 6, 7, 8, 9).often(2, 9, 0), -1);
     }
 
     private static void crossedCall(Sentences s) {
@@ -474,6 +480,9 @@ final class EdgesOfBooks {
         for (int bad : new int[] {-1, 3, 9, MIN, MAX}) {
             s.due("number " + bad, x.crossed(2, 0, bad), -1);
         }
+        HoodBook nine = book(9, 3, "0", 1);
+        s.due("a tenth of nine", nine.crossed(2, 2, 9), -1);
+        s.due("a fourth row", nine.crossed(2, 3, 0), -1);
         for (int bad : NO_BOOKS) {
             s.due("book " + bad, x.crossed(bad, 0, 0), -1);
         }
@@ -506,6 +515,7 @@ final class EdgesOfBooks {
         for (int bad : new int[] {-1, 2, 9, MIN, MAX}) {
             s.due("bin " + bad, x.bin(2, bad), -1);
         }
+        s.due("a tenth of nine", book(9, 1, "0", 1).bin(2, 9), -1);
         for (int bad : NO_BOOKS) {
             s.due("book " + bad, x.bin(bad, 0), -1);
         }
@@ -522,6 +532,7 @@ final class EdgesOfBooks {
         for (int bad : new int[] {-1, 2, 9, MIN, MAX}) {
             s.due("line " + bad, x.sign(2, bad), -1);
         }
+        s.due("a tenth of nine", book(9, 1, "0", 1).sign(2, 9), -1);
         for (int bad : NO_BOOKS) {
             s.due("book " + bad, x.sign(bad, 0), -1);
         }
@@ -542,6 +553,7 @@ final class EdgesOfBooks {
         for (int bad : new int[] {-1, 2, 9, MIN, MAX}) {
             s.due("line " + bad, x.lot(bad), -1);
         }
+        s.due("a tenth of nine", book(9, 1, "0", 1).lot(9), -1);
         x.undo();
         s.due("undone", x.lot(0), -1);
         s.due("without passes", book(1, 1, "0").lot(0), -1);

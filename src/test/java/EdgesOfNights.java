@@ -290,6 +290,7 @@ final class EdgesOfNights {
         Check.open(x, B + "mix 5;");
         Check.open(x, B);
         s.due("without mix again", x.mark(1, 1), 830);
+        s.due("with rows of hoods", Check.opened(B + H + H).mark(1, 1), 830);
     }
 
     private static void words(Sentences s) {
@@ -362,6 +363,9 @@ final class EdgesOfNights {
         for (Token t : tokens(FULL)) {
             s.refuses(FULL.substring(0, t.place) + "?" + FULL.substring(t.place), 1, t.place);
             s.refuses(with(FULL, t, "]"), 1, t.place);
+            if (t.needsBlank()) {
+                s.refuses(FULL.substring(0, t.place) + ";", 1, t.place);
+            }
         }
         s.refuses(FULL + "?", 1, FULL.length());
         s.of("I", "(words and numbers whole, at their first byte;");
@@ -533,8 +537,19 @@ final class EdgesOfNights {
         s.due("the tape is gone with a fault", x.feed(0, 0, 0, 0, 0), 20);
         String longest = B + "mix 1" + "+1".repeat(787) + ";";
         s.due("as long as a tape", longest.length(), 1600);
-        s.due("open", Check.open(x, longest), 2);
-        s.due("mark", x.mark(0, 0), 788);
+        for (int k = 0; k < 3; k++) {
+            s.due("open", Check.open(x, longest), 2);
+            s.due("mark", x.mark(0, 0), 788);
+        }
+        HoodBook again = new HoodBook();
+        for (int k = 1; k <= 4; k++) {
+            s.due("a fault at a number", Check.open(again, B + H + "mix hood;coin 100"), -1);
+            s.due("open behind it", Check.open(again, B + "mix hood+1;" + H.repeat(k)), 2 + k);
+            s.due("rows of hoods", again.has(2), k);
+            s.due("mark", again.mark(5, 0), 6);
+            s.due("night", again.night(), k);
+            s.due("gift", again.passed(0, 1), 4);
+        }
     }
 
     private static void openRefused(Sentences s) {
@@ -594,6 +609,16 @@ final class EdgesOfNights {
             s.due("mark", x.mark(1, 0), text.equals(B) ? 619 : 8);
             x.pass(1, 1, 1);
         }
+        HoodBook same = Check.opened("book lines 2 rows 1;mix hood;");
+        same.pass(5, 5, 0);
+        same.least(2, 0);
+        Check.open(same, "book lines 3 rows 2;mix hood+1;");
+        s.due("mark by the same coin", same.mark(5, 0), 6);
+        s.due("least by the same coin", same.least(2, 0), -1);
+        s.due("its lines", same.bin(2, 2), 0);
+        s.due("its rows", same.crossed(2, 1, 2), 0);
+        same.pass(7, 5, 0);
+        s.due("least", same.least(2, 0), 8);
         s.of("4", "nothing can be undone;");
         HoodBook u = Check.opened(B);
         u.pass(1, 1, 1);

@@ -156,6 +156,11 @@ final class EdgesOfQuestions {
         asks(s, "most gifts", 107);
         asks(s, "least gifts", 7);
         asks(s, "most coin", 5);
+        HoodBook less = book();
+        less.best(0, 0);
+        s.due("the coin of now, behind best()", Check.ask(less, "most coin"), 5);
+        less.undo();
+        s.due("gifts of the passes of now", Check.ask(less, "most gifts"), 99);
         HoodBook full = Check.opened("book lines 1 rows 1;" + "hoods 80 from 63 step 0 gives 99 gate 1;".repeat(5));
         full.night();
         s.due("400 times", Check.ask(full, "most times"), 400);

@@ -239,6 +239,8 @@ final class EdgesOfSaying {
         HoodBook gates = book(1, 1, "hood", 1, 2);
         gates.pass(3, 0, 1);
         s.due("the book of all", gates.few(0, 0), 4);
+        gates.best(0, 0);
+        s.due("by the coin of now, behind best()", gates.few(0, 0), 4);
         s.due("its lines stay", gates.has(0), 1);
         s.due("its book stays", gates.least(2, 1), -1);
         int[] octave = {8, 9, 10, 11, 12, 13, 14, 15};
@@ -251,6 +253,10 @@ final class EdgesOfSaying {
         s.due("by coin 0", coin.few(3, 62), 1);
         coin.toss(1);
         s.due("by the coin of now", coin.few(3, 0), 8);
+        coin.best(3, 0);
+        coin.toss(2);
+        coin.best(2, 0);
+        s.due("by the coin of now", coin.few(3, 0), -1);
     }
 
     private static void bestTerm(Sentences s) {
@@ -290,10 +296,30 @@ final class EdgesOfSaying {
         s.due("giving 0", none.cross(4, 1), 0);
         s.due("of like ones the first", none.cross(4, 0), 0);
         s.due("giving 0", giving(1, 40).cross(4, 1), 40);
+        HoodBook less = giving(1, 0, 99);
+        s.due("less out by every one", less.cross(4, 1), 0);
+        s.due("of like ones the first", less.cross(4, 0), 0);
+        HoodBook least = book(3, 1, "630-hood*10", 60, 61);
+        s.due("with the marks that there are", least.cross(0, 0), 62);
+        s.due("2000 by 30 less 3", least.cross(0, 1), 63);
+        HoodBook lower = book(3, 1, "hood*10+10", 2, 1);
+        s.due("with the marks that there are", lower.cross(0, 0), 0);
+        s.due("2000 by 30 less 3", lower.cross(0, 1), 63);
+        HoodBook rows = book(9, 3, EdgesOfBooks.inLine(4, "hood/7"), 60, 61);
+        s.due("with its rows", rows.cross(2, 0), 56);
+        s.due("three told of 57", rows.cross(2, 1), 3);
+        HoodBook bits = book(9, 1, EdgesOfBooks.inLine(5, "hood/30*20+10") + "+" + EdgesOfBooks.inLine(6, "hood/30*20+40"),
+            30, 31);
+        s.due("with the bits that there are", bits.cross(3, 0), 0);
+        s.due("28 and 29", bits.cross(3, 1), 57);
         HoodBook x = book(1, 1, "1", 5);
         x.pass(6, 0, 1);
+        x.best(3, 0);
         s.due("the book of all", x.cross(3, 1), 62);
         s.due("one that has passed", x.cross(3, 0), 5);
+        HoodBook coin = book(1, 1, "coin+1", 1, 2, 3);
+        coin.best(1, 0);
+        s.due("by the coin of now, behind best()", coin.cross(1, 1), 3);
         s.due("nobody passes", x.has(5), 2);
         s.due("no act", x.has(7), 2);
         s.due("the book stays", x.truth(0, 0), 1);
@@ -308,6 +334,10 @@ final class EdgesOfSaying {
         s.dueRow("one between changes least", between::same, 58, 61, 62, 63, -1);
         HoodBook room = book(3, 1, EdgesOfBooks.inLine(0, "hood"), 58, 61);
         s.dueRow("least has room", room::same, 58, 61, -1);
+        room.undo();
+        s.dueRow("least has room again", room::same, 58, -1);
+        HoodBook nine = book(9, 1, EdgesOfBooks.inLine(0, "hood"), 50, 51, 52, 53, 54, 55, 56, 57, 58);
+        s.due("nine marks", nine.same(-1), 14);
         HoodBook run = book(1, 1, EdgesOfBooks.inLine(1, "hood+1"), 15);
         s.due("run 4 or less", run.same(-1), 62);
         s.dueRow("not 31, not 63", k -> run.same(30 + k), 30, 32, 33);
@@ -332,6 +362,7 @@ final class EdgesOfSaying {
             int b = book;
             s.dueRow("without passes", k -> x.says(b, k), 0, 0, -1, -1);
         }
+        s.dueRow("nine lines without passes", k -> book(9, 3, "0").says(2, k), 0, 0, -1, -1);
         x.pass(12, 99, 1);
         x.pass(4, 99, 1);
         s.dueRow("says", k -> x.says(1, k), 2, 4, 67, 12);

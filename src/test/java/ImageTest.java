@@ -98,11 +98,23 @@ public final class ImageTest {
         for (int k = 0; k < 5; k++) {
             x.night();
         }
-        int[] bytes = Check.octets(x);
-        c.due("length", bytes.length, 3 + 1200 + 9 + 1);
-        c.due("higher byte", bytes[1], 1);
-        c.due("lower byte", bytes[2], 144);
-        c.due("check", bytes[1212], closed(Arrays.copyOf(bytes, 1212))[1212]);
+        int[] bytes = new int[3 + 1200 + 9];
+        bytes[1] = 1;
+        bytes[2] = 144;
+        for (int k = 0; k < 400; k++) {
+            bytes[3 + 3 * k] = (3 + k % 80 * 5) % 64;
+            bytes[4 + 3 * k] = k % 80;
+            bytes[5 + 3 * k] = 1;
+        }
+        for (int line = 0; line < 9; line++) {
+            bytes[1203 + line] = x.lot(line);
+        }
+        bytes = closed(bytes);
+        c.due("length", x.image(), bytes.length);
+        for (int k = 0; k < bytes.length; k += 4) {
+            c.due("octet(" + k + ")", x.octet(k), bytes[k]);
+        }
+        c.due("the last", x.octet(1212), bytes[1212]);
         HoodBook y = Check.opened("book lines 9 rows 3;");
         Check.write(y, bytes);
         c.due("on", y.on(), true);

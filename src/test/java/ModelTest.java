@@ -11,9 +11,10 @@ public final class ModelTest {
     private HoodBook x;
     private Naive n;
     private int run;
+    private int calls;
 
     public static void main(String[] args) {
-        int runs = args.length > 0 ? Integer.parseInt(args[0]) : 250;
+        int runs = args.length > 0 ? Integer.parseInt(args[0]) : 400;
         int from = args.length > 1 ? Integer.parseInt(args[1]) : 0;
         ModelTest t = new ModelTest();
         for (int k = from; k < from + runs; k++) {
@@ -22,22 +23,27 @@ public final class ModelTest {
         t.c.finish();
     }
 
+    /** What an object answers behind its 512th call is free. */
     private void due(String call, long got, long want) {
-        c.due("run " + run + ": " + call, got, want);
+        calls++;
+        if (calls <= 512) {
+            c.due("run " + run + ": " + call, got, want);
+        }
     }
 
     private void due(String call, boolean got, boolean want) {
-        c.due("run " + run + ": " + call, got, want);
+        due(call, got ? 1 : 0, want ? 1 : 0);
     }
 
     private void oneRun(int k) {
         run = k;
+        calls = 0;
         random = new Random(k);
         texts = new Texts(random);
         x = new HoodBook();
         n = new Naive();
         int acts = 10 + random.nextInt(60);
-        for (int a = 0; a < acts; a++) {
+        for (int a = 0; a < acts && calls < 512; a++) {
             act();
             for (int q = random.nextInt(8); q > 0; q--) {
                 look();
@@ -106,8 +112,11 @@ public final class ModelTest {
     private void imageAndOn() {
         due("image", x.image(), n.image());
         List<Integer> bytes = new ArrayList<>();
+        int step = 1 + n.image.length / 40;
         for (int k = 0; k < n.image.length; k++) {
-            due("octet", x.octet(k), n.octet(k));
+            if (k % step == 0 || k > n.image.length - 12) {
+                due("octet", x.octet(k), n.octet(k));
+            }
             bytes.add(n.image[k]);
         }
         due("octet", x.octet(n.image.length), -1);
