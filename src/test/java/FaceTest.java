@@ -5,7 +5,9 @@ import java.lang.reflect.Method;
 import java.lang.reflect.Modifier;
 import java.nio.file.Files;
 import java.nio.file.Path;
+import java.util.ArrayList;
 import java.util.Arrays;
+import java.util.List;
 import java.util.Set;
 import java.util.TreeSet;
 import java.util.regex.Matcher;
@@ -29,6 +31,7 @@ public final class FaceTest {
     public static void main(String[] args) throws IOException {
         Check c = new Check("FaceTest");
         face(c);
+        documented(c);
         inside(c);
         source(c);
         c.finish();
@@ -54,6 +57,42 @@ public final class FaceTest {
         Constructor<?>[] constructors = k.getDeclaredConstructors();
         c.due("constructors", constructors.length, 1);
         c.due("its parameters", constructors[0].getParameterCount(), 0);
+    }
+
+    /** The face above is that of the document, and each member of it has its promise, in that order. */
+    private static void documented(Check c) throws IOException {
+        Path path = Path.of("../shared/DOC.md");
+        if (!Files.exists(path)) {
+            return;
+        }
+        String document = Files.readString(path);
+        List<String> members = found(document, "(?m)^    public ([^;]*);$");
+        List<String> due = new ArrayList<>(List.of("static final int NONE = " + HoodBook.NONE,
+            "static final long NOTHING = " + HoodBook.NOTHING + "L", "HoodBook()"));
+        due.addAll(Arrays.asList(METHODS));
+        c.due("members", members.size(), due.size());
+        for (int k = 0; k < Math.min(members.size(), due.size()); k++) {
+            c.due(members.get(k) + " is " + due.get(k), withoutNames(members.get(k)).equals(due.get(k)), true);
+        }
+        List<String> promises = found(document, "(?m)^## Promise \\d+: .*\n\n`([^`]*)`: ");
+        c.due("promises are of the members behind the constants",
+            promises.equals(members.subList(Math.min(2, members.size()), members.size())), true);
+        List<String> heads = found(document, "(?m)^## Promise (\\d+: .*)$");
+        for (int k = 0; k < heads.size(); k++) {
+            String name = k == 0 ? "A new object" : METHODS[Math.min(k, METHODS.length) - 1].replaceAll("^\\w+ |\\(.*", "");
+            c.due("head of promise " + heads.get(k), heads.get(k).equals(k + 1 + ": " + name), true);
+        }
+        c.due("promises", heads.size(), 37);
+    }
+
+    private static List<String> found(String text, String pattern) {
+        return Pattern.compile(pattern).matcher(text).results().map(m -> m.group(1)).toList();
+    }
+
+    private static String withoutNames(String member) {
+        int open = member.indexOf('(');
+        return open < 0 ? member : member.substring(0, open) + member.substring(open).replaceAll(" \\w+(?=[,)])", "")
+            .replace(", ", ",");
     }
 
     private static void inside(Check c) {

@@ -18,25 +18,37 @@ final class Sentences extends Check {
         unquoted = new LinkedHashMap<>(sections);
     }
 
-    /** The terms by their numbers, the promises by theirs, the constants; each as one line. */
+    /** The terms by their numbers, the promises by theirs, the rest by a word; each as one line. FaceTest has the face. */
     private static Map<String, String> sectionsOf(String document) {
         Map<String, String> of = new LinkedHashMap<>();
         String key = "";
         for (String line : document.split("\n")) {
-            if (line.startsWith("## ")) {
-                key = line.startsWith("## Promise ") ? line.replaceAll("## Promise (\\d+):.*", "$1") : "";
-            } else if (line.matches("(I|II|III|IV)\\. .*")) {
-                key = line.substring(0, line.indexOf('.'));
-            } else if (line.startsWith("The constants:")) {
-                key = "constants";
-            } else if (line.startsWith("Ahead of the calls")) {
-                key = "";
-            }
+            key = line.startsWith("# ") ? "" : keyOf(line, key);
             if (!key.isEmpty() && !line.startsWith("## ") && !line.startsWith("```")) {
                 of.merge(key, withoutHead(line), (a, b) -> (a + " " + b).strip().replaceAll("\\s+", " "));
             }
         }
         return of;
+    }
+
+    private static String keyOf(String line, String before) {
+        if (line.startsWith("## ")) {
+            String head = line.substring(3);
+            switch (head) {
+                case "What it is": return "what";
+                case "The public face": return "";
+                case "Terms": return "terms";
+                case "Not promised": return "free";
+                default: return head.replaceAll("Promise (\\d+):.*", "$1");
+            }
+        }
+        if (line.matches("(I|II|III|IV)\\. .*")) {
+            return line.substring(0, line.indexOf('.'));
+        }
+        if (line.startsWith("The constants:")) {
+            return "constants";
+        }
+        return line.startsWith("Ahead of the calls") ? "ahead" : before;
     }
 
     private static String withoutHead(String line) {
